@@ -225,6 +225,26 @@ public final class PromisesTest {
         due("lay behind that", x.lay(0, 1, 1, 1), 0);
         due("board(0, 4) is new", x.board(0, 4), 0);
         due("board(0, 6) is new", x.board(0, 6), 0);
+        takeUpOneOfTwenty();
+    }
+
+    private static void takeUpOneOfTwenty() {
+        CreakingGhosts x = new CreakingGhosts();
+        for (int i = 0; i < 20; i++) x.lay(i % 9, 9, 1 + i % 9, 1);
+        for (int ghost = 0; ghost < 4; ghost++) {
+            x.put(ghost, 1);
+            if (ghost > 0) x.glide(ghost, 19);
+        }
+        due("takeUp(7) of twenty", x.takeUp(7), 19);
+        due("room of the last", x.board(18, 0), 1);
+        due("creak of the last", x.board(18, 2), 2);
+        due("crossed of the last", x.board(18, 4), 14);
+        due("creaked of the last", x.board(18, 6), 3);
+        due("creaked of the one before", x.board(17, 6), 0);
+        due("takeUp(18)", x.takeUp(18), 18);
+        due("lay in its place", x.lay(1, 2, 3, 4), 18);
+        due("creaked of the new one", x.board(18, 6), 0);
+        due("crossed of the new one", x.board(18, 4), 0);
     }
 
     private static void promise6Sleeper() {
@@ -472,6 +492,10 @@ public final class PromisesTest {
         due("free but for a watched room", x.ghost(2, 2), 0);
         x.put(1, 4);
         due("rooms from a watched one", x.ghost(1, 3), 16);
+        due("rooms at the end of a long row",
+            withBoards("ij11;hi11;gh11;fg11;ef11;de11;cd11;bc11;ab11").ghost(3, 3), 1023);
+        due("rooms at the end of a long row the other way",
+            withBoards("ab11;bc11;cd11;de11;ef11;fg11;gh11;hi11;ij11").ghost(3, 3), 1023);
         x.pass(60);
         due("crossed behind a bell", x.ghost(0, 1), 0);
         due("crossings behind a bell", x.ghost(0, 4), 1);
@@ -497,9 +521,11 @@ public final class PromisesTest {
         due("awake then", x.sleeperOf(0, 2), 9);
         due("woke then", x.sleeperOf(0, 3), 1);
         due("boards that would wake it then", x.sleeperOf(0, 4), 6);
+        x.sleeper(0, 3);
+        due("boards that would wake another", x.sleeperOf(1, 4), 3);
         due("sleeperOf(0, 5)", x.sleeperOf(0, 5), BAD_VALUE);
         due("sleeperOf(0, -1)", x.sleeperOf(0, -1), BAD_VALUE);
-        due("sleeperOf(1, 5)", x.sleeperOf(1, 5), NO_SUCH);
+        due("sleeperOf(2, 5)", x.sleeperOf(2, 5), NO_SUCH);
         due("sleeperOf(-1, 0)", x.sleeperOf(-1, 0), NO_SUCH);
         for (int wild : WILD) {
             due("sleeperOf(wild, 0)", x.sleeperOf(wild, 0), NO_SUCH);
@@ -572,7 +598,10 @@ public final class PromisesTest {
         writeAll(x, "abc");
         int[] counts = {50, 20, 1, 2, 4, 13, 3, 0, 49, 3, 6};
         for (int what = 0; what < counts.length; what++) due("count(" + what + ")", x.count(what), counts[what]);
-        x.pass(19);
+        x.pass(18);
+        due("count(5) a minute before", x.count(5), 13);
+        due("count(6) a minute before", x.count(6), 3);
+        x.pass(1);
         due("count(5)", x.count(5), 0);
         due("count(6)", x.count(6), 0);
         x.pass(130);
@@ -996,6 +1025,21 @@ public final class PromisesTest {
         x.undo();
         same("undo() of restore(0)", stateOf(x), changed);
         due("restore(1) of nothing", x.restore(1), NOT_POSSIBLE);
+        restoreOtherSleepers();
+    }
+
+    private static void restoreOtherSleepers() {
+        CreakingGhosts x = withBoards("ab91");
+        x.sleeper(1, 5);
+        x.save(0);
+        x.undo();
+        x.sleeper(0, 7);
+        String other = stateOf(x);
+        x.restore(0);
+        due("room of the sleeper", x.sleeperOf(0, 0), 1);
+        due("ear of the sleeper", x.sleeperOf(0, 1), 5);
+        x.undo();
+        same("undo() of restore(0)", stateOf(x), other);
     }
 
     private static void changesTextsAndStates() {
