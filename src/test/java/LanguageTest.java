@@ -178,8 +178,9 @@ public final class LanguageTest {
         lookAtFace();
         lookAtClasses();
         lookAtSource();
-        callWithEverything();
+        // Ahead of the many calls, after which the compiler may leave out what is made in vain.
         countWhatIsMade();
+        callWithEverything();
         System.out.println(wrong == 0 ? "the form is as it should be" : wrong + " rules do not hold");
         if (wrong != 0) System.exit(1);
     }
