@@ -29,7 +29,7 @@ public final class CreakingGhosts {
 
     public int set(int setting, int value) {
         if (!isSetting(setting, value)) return BAD_VALUE;
-        history.record(attic);
+        history.remember(attic);
         int previous = attic.settings.at(setting);
         attic.settings.store(setting, value);
         return previous;
@@ -39,7 +39,7 @@ public final class CreakingGhosts {
         if (!isRoom(room) || !isRoom(other)) return NO_SUCH;
         if (room == other || !isWithin(creak, 1, LOUDEST) || !isWithin(minutes, 1, SLOWEST)) return BAD_VALUE;
         if (attic.boards.laid >= MOST_BOARDS) return TOO_MANY;
-        history.record(attic);
+        history.remember(attic);
         attic.boards.append(room, other, creak, minutes);
         return attic.boards.laid - 1;
     }
@@ -47,7 +47,7 @@ public final class CreakingGhosts {
     public int read() {
         if (pad.firstFault() != NONE) return BAD_TEXT;
         if (attic.boards.laid + pad.boardsInText() > MOST_BOARDS) return TOO_MANY;
-        history.record(attic);
+        history.remember(attic);
         pad.layAllInto(attic.boards);
         pad.length = 0;
         return attic.boards.laid;
@@ -55,7 +55,7 @@ public final class CreakingGhosts {
 
     public int takeUp(int board) {
         if (!attic.boards.has(board)) return NO_SUCH;
-        history.record(attic);
+        history.remember(attic);
         attic.boards.remove(board);
         attic.ghosts.forgetBoard(board);
         return attic.boards.laid;
@@ -65,14 +65,14 @@ public final class CreakingGhosts {
         if (!isRoom(room)) return NO_SUCH;
         if (!isWithin(ear, 1, DULLEST_EAR)) return BAD_VALUE;
         if (attic.sleepers.come >= MOST_SLEEPERS) return TOO_MANY;
-        history.record(attic);
+        history.remember(attic);
         attic.sleepers.append(room, ear);
         return attic.sleepers.come - 1;
     }
 
     public int put(int ghost, int room) {
         if (!isGhost(ghost) || !isRoom(room)) return NO_SUCH;
-        history.record(attic);
+        history.remember(attic);
         int previous = attic.ghosts.room.at(ghost);
         attic.ghosts.room.store(ghost, room);
         return previous;
@@ -81,7 +81,7 @@ public final class CreakingGhosts {
     public int glide(int ghost, int board) {
         if (!isGhost(ghost) || !attic.boards.has(board)) return NO_SUCH;
         if (!holds(attic.freeAtRoomOf(ghost), board)) return NOT_POSSIBLE;
-        history.record(attic);
+        history.remember(attic);
         return attic.letGlide(ghost, board);
     }
 
@@ -89,7 +89,7 @@ public final class CreakingGhosts {
         if (!isGhost(ghost) || !isRoom(room)) return NO_SUCH;
         findWay(ghost, room);
         if (!way.found) return NOT_POSSIBLE;
-        history.record(attic);
+        history.remember(attic);
         for (int i = 0; i < way.length; i++) {
             int board = way.steps.at(i);
             // An earlier board of the way can have woken somebody who watches this one now.
@@ -102,7 +102,7 @@ public final class CreakingGhosts {
     public int pass(int minutes) {
         if (!isWithin(minutes, 1, LONGEST_PASS)) return BAD_VALUE;
         if (attic.minutes + minutes > LAST_MINUTE) return TOO_MANY;
-        history.record(attic);
+        history.remember(attic);
         return attic.letPass(minutes);
     }
 
@@ -261,7 +261,7 @@ public final class CreakingGhosts {
     public int restore(int slot) {
         if (!isSlot(slot)) return BAD_VALUE;
         if (!holds(savedSlots, slot)) return NOT_POSSIBLE;
-        history.record(attic);
+        history.remember(attic);
         slots.fetch(slot, attic);
         return attic.boards.laid;
     }
@@ -305,16 +305,12 @@ public final class CreakingGhosts {
             cells = new int[Math.max(length, 0)];
         }
 
-        private boolean reaches(int index) {
-            return index >= 0 && index < cells.length;
-        }
-
         int at(int index) {
-            return reaches(index) ? cells[index] : 0;
+            return index >= 0 && index < cells.length ? cells[index] : 0;
         }
 
         void store(int index, int value) {
-            if (reaches(index)) cells[index] = value;
+            if (index >= 0 && index < cells.length) cells[index] = value;
         }
 
         void increase(int index) {
@@ -339,6 +335,8 @@ public final class CreakingGhosts {
         int laid;
         final Row lower = new Row(MOST_BOARDS);
         final Row greater = new Row(MOST_BOARDS);
+        // Both rooms of each board as a set, for most questions ask whether a board touches some rooms.
+        final Row ends = new Row(MOST_BOARDS);
         final Row creak = new Row(MOST_BOARDS);
         final Row minutes = new Row(MOST_BOARDS);
         final Row creaked = new Row(MOST_BOARDS);
@@ -347,6 +345,7 @@ public final class CreakingGhosts {
             laid = other.laid;
             lower.copyFrom(other.lower);
             greater.copyFrom(other.greater);
+            ends.copyFrom(other.ends);
             creak.copyFrom(other.creak);
             minutes.copyFrom(other.minutes);
             creaked.copyFrom(other.creaked);
@@ -360,6 +359,7 @@ public final class CreakingGhosts {
             if (laid >= MOST_BOARDS) return;
             lower.store(laid, Math.min(room, other));
             greater.store(laid, Math.max(room, other));
+            ends.store(laid, 1 << room | 1 << other);
             creak.store(laid, itsCreak);
             minutes.store(laid, itsMinutes);
             creaked.store(laid, 0);
@@ -370,6 +370,7 @@ public final class CreakingGhosts {
             if (!has(board)) return;
             lower.moveUpBehind(board);
             greater.moveUpBehind(board);
+            ends.moveUpBehind(board);
             creak.moveUpBehind(board);
             minutes.moveUpBehind(board);
             creaked.moveUpBehind(board);
@@ -380,11 +381,6 @@ public final class CreakingGhosts {
             return (1 << laid) - 1;
         }
 
-        /** Both rooms of a board. */
-        int ends(int board) {
-            return 1 << lower.at(board) | 1 << greater.at(board);
-        }
-
         int beyond(int board, int room) {
             return lower.at(board) == room ? greater.at(board) : lower.at(board);
         }
@@ -393,7 +389,7 @@ public final class CreakingGhosts {
         int touching(int rooms) {
             int boards = 0;
             for (int board = 0; board < laid; board++) {
-                if ((ends(board) & rooms) != 0) boards |= 1 << board;
+                if ((ends.at(board) & rooms) != 0) boards |= 1 << board;
             }
             return boards;
         }
@@ -410,7 +406,7 @@ public final class CreakingGhosts {
         int widened(int rooms, int set) {
             int wider = rooms;
             for (int board = 0; board < laid; board++) {
-                if (holds(set, board) && (ends(board) & rooms) != 0) wider |= ends(board);
+                if (holds(set, board) && (ends.at(board) & rooms) != 0) wider |= ends.at(board);
             }
             return wider;
         }
@@ -439,7 +435,7 @@ public final class CreakingGhosts {
         }
 
         int loudnessIn(int room, int board) {
-            int steps = fewestTo(room, ends(board));
+            int steps = fewestTo(room, ends.at(board));
             return steps == NONE ? 0 : Math.max(creak.at(board) - steps, 0);
         }
 
@@ -596,14 +592,11 @@ public final class CreakingGhosts {
             return who;
         }
 
-        private boolean wakes(int board, int sleeper) {
-            return boards.loudnessIn(sleepers.room.at(sleeper), board) >= sleepers.ear.at(sleeper);
-        }
-
         int boardsThatWake(int sleeper) {
             int set = 0;
+            int room = sleepers.room.at(sleeper);
             for (int board = 0; board < boards.laid; board++) {
-                if (wakes(board, sleeper)) set |= 1 << board;
+                if (boards.loudnessIn(room, board) >= sleepers.ear.at(sleeper)) set |= 1 << board;
             }
             return set;
         }
@@ -613,7 +606,8 @@ public final class CreakingGhosts {
             boards.creaked.increase(board);
             int who = 0;
             for (int sleeper = 0; sleeper < sleepers.come; sleeper++) {
-                if (wakes(board, sleeper)) {
+                int loudness = boards.loudnessIn(sleepers.room.at(sleeper), board);
+                if (loudness >= sleepers.ear.at(sleeper)) {
                     sleepers.wake(sleeper, settings.at(AWAKE));
                     who |= 1 << sleeper;
                 }
@@ -721,8 +715,8 @@ public final class CreakingGhosts {
             int touched = 0;
             for (int board = 0; board < boards.laid; board++) {
                 if (holds(left, board)) {
-                    odd ^= boards.ends(board);
-                    touched |= boards.ends(board);
+                    odd ^= boards.ends.at(board);
+                    touched |= boards.ends.at(board);
                 }
             }
             if (left == 0) return NO_BOARD;
@@ -852,7 +846,7 @@ public final class CreakingGhosts {
         private int next;
         int kept;
 
-        void record(Attic attic) {
+        void remember(Attic attic) {
             states.keep(next, attic);
             next = next + 1 < MOST_STATES ? next + 1 : 0;
             kept = Math.min(kept + 1, MOST_STATES);

@@ -1,4 +1,12 @@
 import com.sun.management.ThreadMXBean;
+import com.sun.source.tree.ClassTree;
+import com.sun.source.tree.CompilationUnitTree;
+import com.sun.source.tree.MethodInvocationTree;
+import com.sun.source.tree.MethodTree;
+import com.sun.source.tree.NewClassTree;
+import com.sun.source.util.JavacTask;
+import com.sun.source.util.TreePathScanner;
+import com.sun.source.util.Trees;
 import java.io.IOException;
 import java.lang.management.ManagementFactory;
 import java.lang.reflect.Constructor;
@@ -11,12 +19,21 @@ import java.nio.file.Files;
 import java.nio.file.Path;
 import java.util.ArrayList;
 import java.util.Arrays;
+import java.util.HashMap;
+import java.util.HashSet;
+import java.util.LinkedHashSet;
 import java.util.List;
+import java.util.Map;
 import java.util.Random;
 import java.util.Set;
 import java.util.TreeSet;
 import java.util.regex.Matcher;
 import java.util.regex.Pattern;
+import javax.lang.model.element.Element;
+import javax.lang.model.element.ElementKind;
+import javax.tools.JavaCompiler;
+import javax.tools.StandardJavaFileManager;
+import javax.tools.ToolProvider;
 
 /** What ../shared/LANGUAGE.md asks of the class, as far as a test can look at it. It runs in the project's folder. */
 public final class LanguageTest {
@@ -31,7 +48,7 @@ public final class LanguageTest {
     private static final String[] FORBIDDEN = {
         "throw", "throws", "try", "catch", "finally", "synchronized", "assert", "import", "package", "volatile", "native",
         "protected", "->", "::", "Exact\\s*\\(", "System\\.(?!arraycopy)", "static\\s*\\{", "float", "double"};
-    private static final int LONGEST_METHOD = 60, MOST_CLASSES = 12, MOST_FIELDS = 20, MOST_PARAMETERS = 7;
+    private static final int LONGEST_METHOD = 60, MOST_CLASSES = 12, MOST_FIELDS = 20, MOST_PARAMETERS = 7, DEEPEST_CALLS = 8;
 
     private static int wrong = 0;
 
@@ -117,6 +134,87 @@ public final class LanguageTest {
         }
     }
 
+    /** Which method of the file calls which; what fields begin with is called by the constructors of their class. */
+    private static final class Calls extends TreePathScanner<Void, Void> {
+        private final Trees trees;
+        private final Map<Element, Set<Element>> called = new HashMap<>();
+        private Element caller;
+
+        Calls(Trees trees) {
+            this.trees = trees;
+        }
+
+        private void call(Element method) {
+            if (caller != null && method != null) called.computeIfAbsent(caller, k -> new LinkedHashSet<>()).add(method);
+        }
+
+        @Override
+        public Void visitClass(ClassTree tree, Void none) {
+            Element outer = caller;
+            caller = null;
+            for (Element member : trees.getElement(getCurrentPath()).getEnclosedElements()) {
+                if (member.getKind() == ElementKind.CONSTRUCTOR) caller = member;
+            }
+            super.visitClass(tree, none);
+            caller = outer;
+            return null;
+        }
+
+        @Override
+        public Void visitMethod(MethodTree tree, Void none) {
+            Element outer = caller;
+            caller = trees.getElement(getCurrentPath());
+            super.visitMethod(tree, none);
+            caller = outer;
+            return null;
+        }
+
+        @Override
+        public Void visitMethodInvocation(MethodInvocationTree tree, Void none) {
+            call(trees.getElement(getCurrentPath()));
+            return super.visitMethodInvocation(tree, none);
+        }
+
+        @Override
+        public Void visitNewClass(NewClassTree tree, Void none) {
+            call(trees.getElement(getCurrentPath()));
+            return super.visitNewClass(tree, none);
+        }
+
+        /** How many calls stand open at once; a call of the library counts as one. */
+        int depth(Element method, Set<Element> open) {
+            if (!open.add(method)) {
+                holds(false, "8: " + method + " calls itself");
+                return 0;
+            }
+            int deepest = 0;
+            for (Element next : called.getOrDefault(method, Set.of())) {
+                // Every constructor begins with that of Object, which is no call of the program.
+                if (!next.getEnclosingElement().toString().equals("java.lang.Object")) deepest = Math.max(deepest, depth(next, open));
+            }
+            open.remove(method);
+            return deepest + 1;
+        }
+    }
+
+    private static void lookAtCalls() throws IOException {
+        JavaCompiler compiler = ToolProvider.getSystemJavaCompiler();
+        try (StandardJavaFileManager files = compiler.getStandardFileManager(null, null, StandardCharsets.UTF_8)) {
+            JavacTask task = (JavacTask) compiler.getTask(null, files, null, List.of("-proc:none"), null, files.getJavaFileObjects(SOURCE));
+            Calls calls = new Calls(Trees.instance(task));
+            Iterable<? extends CompilationUnitTree> units = task.parse();
+            task.analyze();
+            for (CompilationUnitTree unit : units) calls.scan(unit, null);
+            int deepest = 0;
+            for (Element method : new ArrayList<>(calls.called.keySet())) {
+                int depth = calls.depth(method, new HashSet<>());
+                holds(depth <= DEEPEST_CALLS, "11: calls go at most eight deep, those of " + method + " " + depth);
+                deepest = Math.max(deepest, depth);
+            }
+            holds(deepest > 3, "11: the test finds calls: " + deepest);
+        }
+    }
+
     /** A run of 512 calls with arguments of every kind, big boards and all. */
     private static void callAll(CreakingGhosts x, Method[] methods, Random random) throws IllegalAccessException {
         for (int i = 0; i < 512; i++) {
@@ -178,6 +276,7 @@ public final class LanguageTest {
         lookAtFace();
         lookAtClasses();
         lookAtSource();
+        lookAtCalls();
         // Ahead of the many calls, after which the compiler may leave out what is made in vain.
         countWhatIsMade();
         callWithEverything();

@@ -433,7 +433,8 @@ public final class PromisesTest {
         due("count(2)", x.count(2), 260);
         due("ghost(0, 4)", x.ghost(0, 4), 1);
 
-        CreakingGhosts y = withBoards("ab19;ab19");
+        CreakingGhosts y = new CreakingGhosts();
+        y.lay(0, 1, 1, 9);
         for (int i = 0; i < 499; i++) y.pass(200);
         due("minutes", y.count(2), 99800);
         due("pass(200) too far", y.pass(200), TOO_MANY);
