@@ -212,24 +212,41 @@ public final class EdgesOfChangesTest extends Edges {
     @Edge(promise = 5, says = "Takes a board up")
     static void whatWasCrossedMovesUpToo() {
         for (int taken : new int[] {0, 1, 10, 18, 19}) {
-            Counted x = new Counted();
-            x.set(BELL, 200);
-            for (int i = 0; i < 20; i++) x.lay(0, 1, 9, 1);
-            for (int board : new int[] {0, 1, 10, 18, 19}) x.glide(2, board);
-            x.glide(3, taken);
-            int all = 1 | 2 | 1 << 10 | 1 << 18 | 1 << 19;
-            is("crossed before", x.ghost(2, 1), all);
-            x.takeUp(taken);
-            int want = 0;
-            for (int i = 0; i < 19; i++) if ((all >> (i < taken ? i : i + 1) & 1) != 0) want |= 1 << i;
-            is("crossed behind takeUp(" + taken + ")", x.ghost(2, 1), want);
-            is("crossed behind it by who crossed it alone", x.ghost(3, 1), 0);
-            is("how often it crossed any", x.ghost(2, 4), 5);
-            for (int i = 0; i < 19; i++) is("creaked of " + i, x.board(i, 6), want >> i & 1);
-            is("lay in the last place", x.lay(0, 1, 9, 1), 19);
-            is("crossed of the new one", x.board(19, 4), 0);
-            is("creaked of the new one", x.board(19, 6), 0);
+            for (int ghost = 0; ghost < 4; ghost++) takesUpWhatWasCrossed(taken, ghost);
         }
+    }
+
+    private static void takesUpWhatWasCrossed(int taken, int ghost) {
+        int other = (ghost + 1) % 4;
+        Counted x = new Counted();
+        for (int i = 0; i < 20; i++) x.lay(0, 1, 9, 1);
+        for (int board : new int[] {0, 1, 10, 18, 19}) x.glide(ghost, board);
+        x.glide(other, taken);
+        int all = 1 | 2 | 1 << 10 | 1 << 18 | 1 << 19;
+        is("crossed before", x.ghost(ghost, 1), all);
+        x.takeUp(taken);
+        int want = 0;
+        for (int i = 0; i < 19; i++) if ((all >> (i < taken ? i : i + 1) & 1) != 0) want |= 1 << i;
+        is("crossed by " + ghost + " behind takeUp(" + taken + ")", x.ghost(ghost, 1), want);
+        is("crossed behind it by who crossed it alone", x.ghost(other, 1), 0);
+        is("how often it crossed any", x.ghost(ghost, 4), 5);
+        for (int i = 0; i < 19; i++) is("creaked of " + i, x.board(i, 6), want >> i & 1);
+        is("lay in the last place", x.lay(0, 1, 9, 1), 19);
+        is("crossed of the new one", x.board(19, 4), 0);
+        is("creaked of the new one", x.board(19, 6), 0);
+    }
+
+    @Edge(promise = 5, says = "Takes a board up")
+    static void takesUpWithASleeperAwake() {
+        Counted x = boards("ab91;bc11;cd11");
+        x.sleeper(3, 7);
+        x.glide(0, 0);
+        x.takeUp(2);
+        is("who is awake stays so, though apart then", x.sleeperOf(0, 2), 9);
+        is("its room stays watched", x.count(6), 8);
+        is("boards that would wake it", x.sleeperOf(0, 4), 0);
+        is("minutes", x.count(2), 1);
+        is("room of the ghost", x.ghost(0, 0), 1);
     }
 
     // ---- promise 6

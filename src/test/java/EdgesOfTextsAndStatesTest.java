@@ -295,6 +295,21 @@ public final class EdgesOfTextsAndStatesTest extends Edges {
         }
     }
 
+    @Edge(promise = 25, says = "everything except the pad, the slots and the history is as it was before it")
+    static void undoBringsBackTheWays() {
+        Counted x = boards("ab11;bc12;cd13");
+        x.takeUp(0);
+        is("far(0, 3) behind takeUp(0)", x.far(0, 3), NONE);
+        x.undo();
+        is("far(0, 3)", x.far(0, 3), 3);
+        is("soonest(0, 3, 0)", x.soonest(0, 3, 0), 6);
+        is("soonest(0, 3, 4)", x.soonest(0, 3, 4), 2);
+        is("reason(0)", x.reason(0), 0);
+        is("trail(0, 2)", x.trail(0, 2), 2);
+        is("worstGap(0)", x.worstGap(0), 1);
+        is("go(0, 3)", x.go(0, 3), 3);
+    }
+
     // ---- promise 26
 
     @Edge(promise = 26, says = "BAD_VALUE if there is no such slot")
@@ -407,6 +422,31 @@ public final class EdgesOfTextsAndStatesTest extends Edges {
         is("undo()", x.undo(), 4);
         same("behind undo() the state", state(x), before);
         is("restore(0) again", x.restore(0), 1);
+    }
+
+    @Edge(promise = 27, says = "Restores what was saved last in a slot")
+    static void restoresOtherBoardsAndSleepers() {
+        Counted x = boards("ab91;bc91");
+        x.sleeper(1, 5);
+        x.save(0);
+        x.undo();
+        x.undo();
+        x.undo();
+        x.sleeper(0, 7);
+        x.lay(8, 9, 1, 1);
+        x.lay(7, 8, 1, 1);
+        x.save(1);
+        is("restore(0)", x.restore(0), 2);
+        is("room of the sleeper", x.sleeperOf(0, 0), 1);
+        is("ear of the sleeper", x.sleeperOf(0, 1), 5);
+        is("boards that would wake it", x.sleeperOf(0, 4), 3);
+        is("far(0, 2)", x.far(0, 2), 2);
+        is("far(7, 9)", x.far(7, 9), NONE);
+        is("restore(1)", x.restore(1), 2);
+        is("room of the other sleeper", x.sleeperOf(0, 0), 0);
+        is("ear of the other sleeper", x.sleeperOf(0, 1), 7);
+        is("far(7, 9) then", x.far(7, 9), 2);
+        is("far(0, 2) then", x.far(0, 2), NONE);
     }
 
     @Edge(promise = 27, says = "Restores what was saved last in a slot")

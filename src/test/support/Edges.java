@@ -82,10 +82,10 @@ class Edges {
             for (int what : new int[] {0, 1, 2, 3, 6}) all.append(x.board(board, what)).append(' ');
         }
         for (int ghost = 0; ghost < 4; ghost++) {
-            for (int what : new int[] {0, 1, 4}) all.append(x.ghost(ghost, what)).append(' ');
+            for (int what = 0; what <= 4; what++) all.append(x.ghost(ghost, what)).append(' ');
         }
         for (int sleeper = 0; sleeper < sleepers; sleeper++) {
-            for (int what = 0; what <= 3; what++) all.append(x.sleeperOf(sleeper, what)).append(' ');
+            for (int what = 0; what <= 4; what++) all.append(x.sleeperOf(sleeper, what)).append(' ');
         }
         return all.toString();
     }
