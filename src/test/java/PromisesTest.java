@@ -21,7 +21,7 @@ public final class PromisesTest {
         return characters;
     }
 
-    private static void writeAll(CreakingGhosts x, String text) {
+    private static void writeAll(Counted x, String text) {
         for (int i = 0; i < text.length(); i += 8) {
             int end = Math.min(i + 8, text.length());
             due("write of \"" + text.substring(i, end) + "\"", x.write(packed(text.substring(i, end))), x.count(9));
@@ -29,15 +29,15 @@ public final class PromisesTest {
         due("length of the pad", x.count(9), text.length());
     }
 
-    private static CreakingGhosts withBoards(String text) {
-        CreakingGhosts x = new CreakingGhosts();
+    private static Counted withBoards(String text) {
+        Counted x = new Counted();
         writeAll(x, text);
         due("read() of " + text, x.read(), (text.length() + 1) / 5);
         return x;
     }
 
     /** Every answer that tells of the state, but for pad and history. */
-    private static String stateOf(CreakingGhosts x) {
+    private static String stateOf(Counted x) {
         StringBuilder all = new StringBuilder();
         for (int what = 0; what <= 8; what++) all.append(x.count(what)).append(' ');
         for (int i = 0; i < x.count(3); i++) {
@@ -71,7 +71,7 @@ public final class PromisesTest {
     }
 
     private static void promise1NewObject() {
-        CreakingGhosts x = new CreakingGhosts();
+        Counted x = new Counted();
         int[] counts = {60, 10, 0, 0, 0, 0, 0, 0, 60, 0, 0};
         for (int what = 0; what < counts.length; what++) due("count(" + what + ")", x.count(what), counts[what]);
         for (int ghost = 0; ghost < 4; ghost++) {
@@ -86,11 +86,11 @@ public final class PromisesTest {
         due("restore(1)", x.restore(1), NOT_POSSIBLE);
         due("fault()", x.fault(), 0);
         x.lay(0, 1, 1, 1);
-        due("count(3) of another object", new CreakingGhosts().count(3), 0);
+        due("count(3) of another object", new Counted().count(3), 0);
     }
 
     private static void promise2Set() {
-        CreakingGhosts x = new CreakingGhosts();
+        Counted x = new Counted();
         due("set(BELL, 10)", x.set(BELL, 10), 60);
         due("set(BELL, 200)", x.set(BELL, 200), 10);
         due("set(AWAKE, 0)", x.set(AWAKE, 0), 10);
@@ -110,7 +110,7 @@ public final class PromisesTest {
         due("count(1) at last", x.count(1), 60);
 
         // A bell that is set anew rings by the count of minutes, not from the change on.
-        CreakingGhosts y = new CreakingGhosts();
+        Counted y = new Counted();
         y.pass(50);
         y.set(BELL, 25);
         due("count(7)", y.count(7), 0);
@@ -119,7 +119,7 @@ public final class PromisesTest {
         due("pass(1)", y.pass(1), 1);
 
         // Who is awake stays so for as long as it was.
-        CreakingGhosts z = withBoards("ab91");
+        Counted z = withBoards("ab91");
         z.sleeper(5, 1);
         z.sleeper(1, 9);
         z.glide(0, 0);
@@ -128,7 +128,7 @@ public final class PromisesTest {
     }
 
     private static void promise3Lay() {
-        CreakingGhosts x = new CreakingGhosts();
+        Counted x = new Counted();
         due("lay(0, 9, 1, 9)", x.lay(0, 9, 1, 9), 0);
         due("lay(9, 0, 9, 1)", x.lay(9, 0, 9, 1), 1);
         due("board(1, 0)", x.board(1, 0), 0);
@@ -158,7 +158,7 @@ public final class PromisesTest {
     }
 
     private static void promise4Read() {
-        CreakingGhosts x = new CreakingGhosts();
+        Counted x = new Counted();
         due("read() of nothing", x.read(), BAD_TEXT);
         writeAll(x, "ja19;bc82");
         due("read()", x.read(), 2);
@@ -193,7 +193,7 @@ public final class PromisesTest {
     }
 
     private static void promise5TakeUp() {
-        CreakingGhosts x = withBoards("ab19;bc28;cd37;de46");
+        Counted x = withBoards("ab19;bc28;cd37;de46");
         x.glide(0, 0);
         x.glide(0, 1);
         x.glide(0, 2);
@@ -229,7 +229,7 @@ public final class PromisesTest {
     }
 
     private static void takeUpOneOfTwenty() {
-        CreakingGhosts x = new CreakingGhosts();
+        Counted x = new Counted();
         for (int i = 0; i < 20; i++) x.lay(i % 9, 9, 1 + i % 9, 1);
         for (int ghost = 0; ghost < 4; ghost++) {
             x.put(ghost, 1);
@@ -248,7 +248,7 @@ public final class PromisesTest {
     }
 
     private static void promise6Sleeper() {
-        CreakingGhosts x = new CreakingGhosts();
+        Counted x = new Counted();
         due("sleeper(10, 0)", x.sleeper(10, 0), NO_SUCH);
         due("sleeper(-1, 1)", x.sleeper(-1, 1), NO_SUCH);
         due("sleeper(0, 0)", x.sleeper(0, 0), BAD_VALUE);
@@ -271,7 +271,7 @@ public final class PromisesTest {
     }
 
     private static void promise7Put() {
-        CreakingGhosts x = withBoards("ab91");
+        Counted x = withBoards("ab91");
         x.sleeper(1, 1);
         due("put(3, 9)", x.put(3, 9), 0);
         due("put(3, 1)", x.put(3, 1), 9);
@@ -294,7 +294,7 @@ public final class PromisesTest {
     }
 
     private static void promise8Glide() {
-        CreakingGhosts x = withBoards("ab55;bc45;ab11");
+        Counted x = withBoards("ab55;bc45;ab11");
         x.sleeper(0, 5);
         x.sleeper(2, 4);
         x.sleeper(2, 5);
@@ -330,7 +330,7 @@ public final class PromisesTest {
     }
 
     private static void glideWakesThoseWhoAreAwake() {
-        CreakingGhosts x = withBoards("ab91;bc91;bc11");
+        Counted x = withBoards("ab91;bc91;bc11");
         x.sleeper(4, 1);
         x.sleeper(3, 1);
         x.lay(2, 3, 1, 1);
@@ -344,7 +344,7 @@ public final class PromisesTest {
     }
 
     private static void glideWithNoMinutesAwake() {
-        CreakingGhosts x = withBoards("ab91;bc91;cd91;da91");
+        Counted x = withBoards("ab91;bc91;cd91;da91");
         x.sleeper(1, 1);
         x.set(AWAKE, 0);
         due("glide(0, 0)", x.glide(0, 0), 1);
@@ -362,7 +362,7 @@ public final class PromisesTest {
     }
 
     private static void glideThroughBells() {
-        CreakingGhosts x = withBoards("ab19;ba19;ab12");
+        Counted x = withBoards("ab19;ba19;ab12");
         x.set(BELL, 10);
         x.glide(0, 0);
         due("crossed", x.ghost(0, 1), 1);
@@ -377,7 +377,7 @@ public final class PromisesTest {
     }
 
     private static void promise9Go() {
-        CreakingGhosts x = withBoards("ab19;ac11;cb12;bd11");
+        Counted x = withBoards("ab19;ac11;cb12;bd11");
         due("go(0, 3)", x.go(0, 3), 3);
         due("minutes", x.count(2), 4);
         due("crossed", x.ghost(0, 1), 14);
@@ -395,7 +395,7 @@ public final class PromisesTest {
         }
         due("changes", x.count(10), 3);
 
-        CreakingGhosts y = withBoards("ab11;bc91;cd11");
+        Counted y = withBoards("ab11;bc91;cd11");
         y.sleeper(3, 8);
         due("go(0, 3) that wakes somebody there", y.go(0, 3), 2);
         due("crossings on the way", y.ghost(0, 4), 2);
@@ -403,7 +403,7 @@ public final class PromisesTest {
         due("go(0, 2) where it is", y.go(0, 2), 2);
 
         // Who wakes on the way sleeps again when the board at its room has its turn.
-        CreakingGhosts z = withBoards("ab91;bc19;cd11");
+        Counted z = withBoards("ab91;bc19;cd11");
         z.sleeper(3, 7);
         due("go(0, 3) past a short wake", z.go(0, 3), 3);
         due("woke", z.sleeperOf(0, 3), 1);
@@ -411,7 +411,7 @@ public final class PromisesTest {
     }
 
     private static void promise10Pass() {
-        CreakingGhosts x = withBoards("ab91;ac11");
+        Counted x = withBoards("ab91;ac11");
         x.sleeper(1, 1);
         x.glide(0, 0);
         due("pass(0)", x.pass(0), BAD_VALUE);
@@ -433,7 +433,7 @@ public final class PromisesTest {
         due("count(2)", x.count(2), 260);
         due("ghost(0, 4)", x.ghost(0, 4), 1);
 
-        CreakingGhosts y = new CreakingGhosts();
+        Counted y = new Counted();
         y.lay(0, 1, 1, 9);
         for (int i = 0; i < 499; i++) y.pass(200);
         due("minutes", y.count(2), 99800);
@@ -447,7 +447,7 @@ public final class PromisesTest {
     }
 
     private static void promise11Board() {
-        CreakingGhosts x = withBoards("ca29;ab13");
+        Counted x = withBoards("ca29;ab13");
         int[] fresh = {0, 2, 2, 9, 0, 15, 0};
         for (int what = 0; what < fresh.length; what++) due("board(0, " + what + ")", x.board(0, what), fresh[what]);
         x.glide(1, 0);
@@ -477,7 +477,7 @@ public final class PromisesTest {
     }
 
     private static void promise12Ghost() {
-        CreakingGhosts x = withBoards("ab11;bc11;ad91;de11;fg11");
+        Counted x = withBoards("ab11;bc11;ad91;de11;fg11");
         due("free at its room", x.ghost(0, 2), 5);
         due("rooms", x.ghost(0, 3), 31);
         x.glide(0, 0);
@@ -511,7 +511,7 @@ public final class PromisesTest {
     }
 
     private static void promise13SleeperOf() {
-        CreakingGhosts x = withBoards("ab31;bc41;cd31;ef91");
+        Counted x = withBoards("ab31;bc41;cd31;ef91");
         x.sleeper(3, 2);
         due("room", x.sleeperOf(0, 0), 3);
         due("ear", x.sleeperOf(0, 1), 2);
@@ -535,7 +535,7 @@ public final class PromisesTest {
     }
 
     private static void promise14Loudness() {
-        CreakingGhosts x = withBoards("ab51;bc51;cd51;de51;ea21;gh91");
+        Counted x = withBoards("ab51;bc51;cd51;de51;ea21;gh91");
         x.sleeper(0, 1);
         int[] loudness = {5, 4, 3, 4, 2, 0};
         for (int i = 0; i < loudness.length; i++) due("loudness of " + i, x.loudness(i, 0), loudness[i]);
@@ -547,7 +547,7 @@ public final class PromisesTest {
         due("loudness the long way", x.loudness(2, 0), 3);
         x.takeUp(0);
         due("loudness of a board apart", x.loudness(0, 0), 0);
-        CreakingGhosts y = withBoards("ab91;bc91;cd91;de21");
+        Counted y = withBoards("ab91;bc91;cd91;de21");
         y.sleeper(0, 1);
         due("loudness never below 0", y.loudness(3, 0), 0);
         due("loudness(4, 0)", y.loudness(4, 0), NO_SUCH);
@@ -561,7 +561,7 @@ public final class PromisesTest {
     }
 
     private static void promise15Far() {
-        CreakingGhosts x = withBoards("ab11;bc11;cd11;de11;ef11;fg11;gh11;hi11;ij11");
+        Counted x = withBoards("ab11;bc11;cd11;de11;ef11;fg11;gh11;hi11;ij11");
         for (int room = 0; room < 10; room++) {
             due("far(0, " + room + ")", x.far(0, room), room);
             due("far(" + room + ", 9)", x.far(room, 9), 9 - room);
@@ -588,7 +588,7 @@ public final class PromisesTest {
     }
 
     private static void promise16Count() {
-        CreakingGhosts x = withBoards("ab91;bc11");
+        Counted x = withBoards("ab91;bc11");
         x.set(BELL, 50);
         x.set(AWAKE, 20);
         x.sleeper(1, 9);
@@ -614,7 +614,7 @@ public final class PromisesTest {
     }
 
     private static void promise17Soonest() {
-        CreakingGhosts x = withBoards("ab19;ac12;cb12;bd13;ad17;ab14;ac12;ae17");
+        Counted x = withBoards("ab19;ac12;cb12;bd13;ad17;ab14;ac12;ae17");
         due("minutes", x.soonest(0, 3, 0), 7);
         due("boards, how many", x.soonest(0, 3, 1), 1);
         due("the board", x.soonest(0, 3, 2), 4);
@@ -654,13 +654,13 @@ public final class PromisesTest {
     }
 
     private static void soonestOfTheSame() {
-        CreakingGhosts x = withBoards("cd11;bd11;ab11;ac11");
+        Counted x = withBoards("cd11;bd11;ab11;ac11");
         due("the lowest first board", x.soonest(0, 3, 2), 2);
         due("its second board", x.soonest(0, 3, 3), 1);
-        CreakingGhosts y = withBoards("bd12;ab11;bc11;cd11;bd12");
+        Counted y = withBoards("bd12;ab11;bc11;cd11;bd12");
         due("the fewest boards", y.soonest(0, 3, 1), 2);
         due("the lowest second board", y.soonest(0, 3, 3), 0);
-        CreakingGhosts z = withBoards("ab19;bc19;cd19;de19;ef19;fg19;gh19;hi19;ij19");
+        Counted z = withBoards("ab19;bc19;cd19;de19;ef19;fg19;gh19;hi19;ij19");
         due("the longest way", z.soonest(0, 9, 0), 81);
         due("its boards, how many", z.soonest(0, 9, 1), 9);
         due("its last board", z.soonest(0, 9, 10), 8);
@@ -668,7 +668,7 @@ public final class PromisesTest {
     }
 
     private static void soonestThroughWatchedRooms() {
-        CreakingGhosts x = withBoards("ab11;bc11;ad12;dc12;be91");
+        Counted x = withBoards("ab11;bc11;ad12;dc12;be91");
         x.sleeper(1, 9);
         x.put(3, 1);
         x.glide(3, 4);
@@ -681,7 +681,7 @@ public final class PromisesTest {
     }
 
     private static void promise18Quietest() {
-        CreakingGhosts x = withBoards("ab91;ac49;cb59;bd11;ef91");
+        Counted x = withBoards("ab91;ac49;cb59;bd11;ef91");
         due("quietest(0, 1)", x.quietest(0, 1), 5);
         due("quietest(0, 3)", x.quietest(0, 3), 5);
         due("quietest(0, 2)", x.quietest(0, 2), 4);
@@ -707,7 +707,7 @@ public final class PromisesTest {
     }
 
     private static void promise19Reason() {
-        due("no board at all", new CreakingGhosts().reason(0), 1);
+        due("no board at all", new Counted().reason(0), 1);
         due("none at its room", withBoards("bc11").reason(0), 2);
         due("some that cannot be come to", withBoards("ab11;cd11").reason(0), 3);
         due("four odd rooms", withBoards("ab11;ac11;ad11").reason(0), 4);
@@ -718,7 +718,7 @@ public final class PromisesTest {
         due("not come to comes ahead", withBoards("ab11;ac11;ad11;ef11").reason(0), 3);
         due("four comes ahead of two", withBoards("ba11;ab11;bc11;bd11;be11").reason(0), 4);
 
-        CreakingGhosts x = withBoards("ab91;bc11");
+        Counted x = withBoards("ab91;bc11");
         x.sleeper(1, 9);
         due("before", x.reason(0), 0);
         x.glide(0, 0);
@@ -735,7 +735,7 @@ public final class PromisesTest {
     }
 
     private static void promise20Trail() {
-        CreakingGhosts x = withBoards("ad11;ab11;bc11;ca11");
+        Counted x = withBoards("ad11;ab11;bc11;ca11");
         int[] row = {1, 2, 3, 0, NONE, NONE};
         for (int i = 0; i < row.length; i++) due("trail(0, " + i + ")", x.trail(0, i), row[i]);
         due("far behind it", x.trail(0, Integer.MAX_VALUE), NONE);
@@ -755,10 +755,10 @@ public final class PromisesTest {
         due("trail of nothing", x.trail(0, 0), NOT_POSSIBLE);
 
         // Twice between the same rooms, and a loop that has to come before the way on.
-        CreakingGhosts y = withBoards("bc11;cb11;ab11;ba11;ae11");
+        Counted y = withBoards("bc11;cb11;ab11;ba11;ae11");
         int[] loops = {2, 0, 1, 3, 4, NONE};
         for (int i = 0; i < loops.length; i++) due("of loops trail(0, " + i + ")", y.trail(0, i), loops[i]);
-        CreakingGhosts z = withBoards("ab11;ab11;ab11;ab11;ab11;ab11;ab11;ab11;ab11;ab11");
+        Counted z = withBoards("ab11;ab11;ab11;ab11;ab11;ab11;ab11;ab11;ab11;ab11");
         writeAll(z, "ab11;ab11;ab11;ab11;ab11;ab11;ab11;ab11;ab11;ab11");
         z.read();
         due("the 20th of twenty", z.trail(0, 19), 19);
@@ -766,7 +766,7 @@ public final class PromisesTest {
     }
 
     private static void promise21WorstGap() {
-        CreakingGhosts x = withBoards("ab11;bc11;cd11;de11");
+        Counted x = withBoards("ab11;bc11;cd11;de11");
         due("the middle", x.worstGap(0), 1);
         due("its pairs", x.worstGap(1), 6);
         x.lay(1, 3, 1, 1);
@@ -779,22 +779,22 @@ public final class PromisesTest {
         x.lay(7, 8, 1, 1);
         due("another part", x.worstGap(0), 5);
         due("pairs of another part", x.worstGap(1), 4);
-        CreakingGhosts y = withBoards("ab11;ab11;bc91");
+        Counted y = withBoards("ab11;ab11;bc91");
         y.sleeper(1, 1);
         y.glide(0, 0);
         due("watched and crossed boards count", y.worstGap(0), 2);
         due("their pairs", y.worstGap(1), 2);
         due("without any", withBoards("ab11;ab11").worstGap(0), NONE);
         due("pairs without any", withBoards("ab11;bc11;ca11").worstGap(1), NONE);
-        due("without boards", new CreakingGhosts().worstGap(1), NONE);
+        due("without boards", new Counted().worstGap(1), NONE);
         due("worstGap(2)", y.worstGap(2), BAD_VALUE);
         due("worstGap(-1)", y.worstGap(-1), BAD_VALUE);
-        due("worstGap(2) without boards", new CreakingGhosts().worstGap(2), BAD_VALUE);
+        due("worstGap(2) without boards", new Counted().worstGap(2), BAD_VALUE);
         for (int wild : WILD) due("worstGap(wild)", y.worstGap(wild), BAD_VALUE);
     }
 
     private static void promise22Write() {
-        CreakingGhosts x = new CreakingGhosts();
+        Counted x = new Counted();
         due("write of nothing", x.write(0L), BAD_VALUE);
         due("write of code 32", x.write(32L), BAD_VALUE);
         due("write of code 33", x.write(33L), 1);
@@ -825,7 +825,7 @@ public final class PromisesTest {
     }
 
     private static void promise23Wipe() {
-        CreakingGhosts x = new CreakingGhosts();
+        Counted x = new Counted();
         due("wipe() of nothing", x.wipe(), 0);
         writeAll(x, "xyz");
         due("wipe()", x.wipe(), 3);
@@ -837,7 +837,7 @@ public final class PromisesTest {
     }
 
     private static void faultOf(String text, int want) {
-        CreakingGhosts x = new CreakingGhosts();
+        Counted x = new Counted();
         writeAll(x, text);
         due("fault() of " + text, x.fault(), want);
         due("count(9)", x.count(9), text.length());
@@ -875,22 +875,28 @@ public final class PromisesTest {
         faultOf("ab11;ab11;ab11;ab11;ab11;ab11;ab11;ab11;ab11;ab11;ab11;ab11;", 60);
     }
 
+    private static void changeOnce(Counted x, int step) {
+        switch (step) {
+            case 0: x.lay(0, 1, 9, 3); break;
+            case 1: x.sleeper(1, 4); break;
+            case 2: x.glide(0, 0); break;
+            case 3: x.pass(100); break;
+            case 4: x.set(BELL, 30); break;
+            default: x.put(2, 7); break;
+        }
+    }
+
     private static void promise25Undo() {
-        CreakingGhosts x = new CreakingGhosts();
+        Counted x = new Counted();
+        // The states are asked of a twin, for one object would be called too often.
+        Counted twin = new Counted();
         due("undo() of nothing", x.undo(), NOT_POSSIBLE);
-        String[] states = new String[12];
-        states[0] = stateOf(x);
-        x.lay(0, 1, 9, 3);
-        states[1] = stateOf(x);
-        x.sleeper(1, 4);
-        states[2] = stateOf(x);
-        x.glide(0, 0);
-        states[3] = stateOf(x);
-        x.pass(100);
-        states[4] = stateOf(x);
-        x.set(BELL, 30);
-        states[5] = stateOf(x);
-        x.put(2, 7);
+        String[] states = new String[6];
+        for (int step = 0; step < 6; step++) {
+            states[step] = stateOf(twin);
+            changeOnce(twin, step);
+            changeOnce(x, step);
+        }
         due("count(10)", x.count(10), 6);
         for (int i = 5; i >= 0; i--) {
             due("undo()", x.undo(), i);
@@ -903,7 +909,7 @@ public final class PromisesTest {
     }
 
     private static void undoKeepsSix() {
-        CreakingGhosts x = new CreakingGhosts();
+        Counted x = new Counted();
         for (int i = 1; i <= 9; i++) x.pass(i);
         due("count(10)", x.count(10), 6);
         int[] minutes = {36, 28, 21, 15, 10, 6};
@@ -918,7 +924,7 @@ public final class PromisesTest {
     }
 
     private static void undoLeavesErrorsAndPadAlone() {
-        CreakingGhosts x = new CreakingGhosts();
+        Counted x = new Counted();
         x.set(BELL, 9);
         x.lay(0, 0, 1, 1);
         x.read();
@@ -946,7 +952,7 @@ public final class PromisesTest {
     }
 
     private static void undoOfEachChange() {
-        CreakingGhosts x = withBoards("ab91;bc91;cd91");
+        Counted x = withBoards("ab91;bc91;cd91");
         x.sleeper(3, 3);
         x.glide(0, 0);
         x.glide(1, 0);
@@ -973,7 +979,7 @@ public final class PromisesTest {
     }
 
     private static void promise26Save() {
-        CreakingGhosts x = withBoards("ab91;bc91");
+        Counted x = withBoards("ab91;bc91");
         due("save(0)", x.save(0), 2);
         due("count(10)", x.count(10), 1);
         due("save(2)", x.save(2), BAD_VALUE);
@@ -993,7 +999,7 @@ public final class PromisesTest {
     }
 
     private static void promise27Restore() {
-        CreakingGhosts x = withBoards("ab91;bc91");
+        Counted x = withBoards("ab91;bc91");
         x.sleeper(2, 5);
         x.set(BELL, 30);
         x.set(AWAKE, 20);
@@ -1030,7 +1036,7 @@ public final class PromisesTest {
     }
 
     private static void restoreOtherSleepers() {
-        CreakingGhosts x = withBoards("ab91");
+        Counted x = withBoards("ab91");
         x.sleeper(1, 5);
         x.save(0);
         x.undo();
